@@ -106,12 +106,13 @@ public final class OracleTest {
                 due("stall", x.stall(a, b), o.stall(a, b), a, b);
                 break;
             case 1:
-                if (chance(40)) {
-                    layStalls();
-                }
                 a = some(0, 5);
                 b = some(0, 12);
                 c = some(1, 6);
+                if (chance(70)) {
+                    layStalls(a);
+                    b = some(0, 3);
+                }
                 due("stalls", x.stalls(a, b, c), o.stalls(a, b, c), a, b, c);
                 break;
             case 2:
@@ -361,12 +362,12 @@ public final class OracleTest {
         }
     }
 
-    private void layStalls() {
+    private void layStalls(int shelf) {
         int[] items = new int[random.nextInt(21)];
         for (int i = 0; i < items.length; i++) {
             items[i] = i % 3 == 0 ? someSet() : i % 3 == 1 ? some(0, 99) : some(0, 9);
         }
-        lay(some(0, 5), 2, items);
+        lay(shelf, 2, items);
     }
 
     /** One that he may say, so that most have a way; now and then with a thing of its own. */
@@ -407,6 +408,23 @@ public final class OracleTest {
 
     private void feedText() {
         StringBuilder text = new StringBuilder();
+        for (int tries = 0; tries < 9 && (tries == 0 || text.length() > 110); tries++) {
+            text.setLength(0);
+            drawText(text);
+        }
+        if (o.tape.length() > 0 && chance(70)) {
+            due("law", x.law(), o.law(), 0);
+        }
+        for (int i = 0; i < text.length() && i < 121; i++) {
+            int letter = text.charAt(i);
+            due("feed", x.feed(letter), o.feed(letter), letter);
+        }
+        if (chance(60)) {
+            due("law", x.law(), o.law(), 0);
+        }
+    }
+
+    private void drawText(StringBuilder text) {
         int lines = 1 + random.nextInt(3);
         for (int i = 0; i < lines; i++) {
             text.append(i > 0 ? ";" : "");
@@ -428,10 +446,6 @@ public final class OracleTest {
                 text.setLength(place);
             }
         }
-        for (int i = 0; i < text.length() && i < 121; i++) {
-            int letter = text.charAt(i);
-            due("feed", x.feed(letter), o.feed(letter), letter);
-        }
     }
 
     /** By levels: 0 or, 1 and, 2 compared, 3 sum, 4 product, 5 operand. */
@@ -442,7 +456,7 @@ public final class OracleTest {
         }
         String[] signs = {"|", "&", "<=>", "+-", "*/%"};
         int more = level == 2 ? random.nextInt(2) : random.nextInt(3);
-        if (random.nextInt(4) > size || level < 2 && chance(60)) {
+        if (random.nextInt(4) > size || level < 3 && chance(70)) {
             more = 0;
         }
         term(text, level + 1, size);

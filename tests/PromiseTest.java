@@ -357,6 +357,12 @@ public final class PromiseTest {
             early.append("+m");
         }
         fault(early.append('+').toString(), -220);
+        StringBuilder lines = new StringBuilder("7");
+        for (int i = 0; i < 59; i++) {
+            lines.append(";7");
+        }
+        fault(lines.toString(), 1);
+        fault(lines.append(';').toString(), -220);
         StyliteOverheard x = Due.ruled("7");
         due.is("law() of no tape", x.law(), -100);
         due.is("thing behind it", x.thing(0), 7);
@@ -813,6 +819,10 @@ public final class PromiseTest {
         x.mend(0, 5, 0);
         order(x, 3, 99, 2, 0, 1);
         order(x, 2, 10, 1, 0, 2);
+        x = Due.ruled("h");
+        x.stall(0, 9);
+        x.stall(0, 9);
+        order(x, 200, 0, 0, 1);
         x = Due.ruled("0");
         int[] price = {5, 1, 5, 9, 1, 7};
         for (int i = 0; i < 6; i++) {
@@ -1169,6 +1179,21 @@ public final class PromiseTest {
         }
         due.is("the first is forgotten", x.undo(), STATE);
         due.is("MOOD as told first", x.of(0, 0), 1);
+        x = Due.made();
+        x.stall(0, 0);
+        x.stall(0, 0);
+        // 45 changes: of stall 0's and 1's PRICE and LIKES by turns
+        for (int i = 0; i < 45; i++) {
+            x.mend(i % 2, 7 + i % 3 % 2, i + 1);
+        }
+        for (int i = 44; i >= 5; i--) {
+            due.is("the latest of many", x.of(i % 2, 7 + i % 3 % 2), i + 1);
+            due.is("undo of many", x.undo(), i - 5);
+        }
+        due.is("LIKES of 0 by the first five", x.of(0, 7), 3);
+        due.is("PRICE of 0 by the first five", x.of(0, 8), 5);
+        due.is("LIKES of 1 by the first five", x.of(1, 7), 4);
+        due.is("PRICE of 1 by the first five", x.of(1, 8), 2);
         x = Due.ruled("r");
         x.mend(0, 0, 5);
         x.hour(4);

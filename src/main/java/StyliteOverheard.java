@@ -152,11 +152,11 @@ public final class StyliteOverheard {
         if (tr < 0 || tr >= THINGS * BITS || k < -1) {
             return BAD;
         }
-        int hours = planner.hoursToSay(him, law, 1 << (tr / BITS), tr % BITS);
-        if (hours == 0) {
+        planner.plan(Planner.SAY, 1 << (tr / BITS), PLANNED, tr % BITS, him, law);
+        if (planner.hours == 0) {
             return NOT;
         }
-        return k < 0 ? hours : planner.remarkAt(k);
+        return k < 0 ? planner.hours : planner.remarkAt(k);
     }
 
     public int recite(int shelf, int k) {
@@ -189,7 +189,7 @@ public final class StyliteOverheard {
         if (set < 0 || set >= SETS || !isPlan(nr) || k < -1) {
             return BAD;
         }
-        int said = planner.mostOf(him, law, set, nr / BITS, nr % BITS);
+        int said = planner.plan(Planner.MOST, set, nr / BITS, nr % BITS, him, law);
         return k < 0 ? said : planner.remarkAt(k);
     }
 
@@ -197,7 +197,7 @@ public final class StyliteOverheard {
         if (!isPlan(nr) || k < -1) {
             return BAD;
         }
-        int lumps = planner.fewestLumps(him, law, nr / BITS, nr % BITS);
+        int lumps = -planner.plan(Planner.QUIET, 0, nr / BITS, nr % BITS, him, law);
         return k < 0 ? lumps : planner.remarkAt(k);
     }
 
@@ -1577,33 +1577,13 @@ public final class StyliteOverheard {
         private final long[] said = new long[PLANNED * MOODS];
         /** By hour, mood and last: the most points from there on; NEVER: he can't be so. */
         private final int[] worth = new int[(PLANNED + 1) * MOODS];
-        private int hours;
+        int hours;
         private int bits;
         private int aim;
         private int set;
 
-        /** 0: not by 12. */
-        int hoursToSay(Him him, Law law, int itsSet, int itsBits) {
-            begin(SAY, itsSet, PLANNED, itsBits);
-            plan(him, law);
-            return hours;
-        }
-
-        int mostOf(Him him, Law law, int itsSet, int n, int itsBits) {
-            begin(MOST, itsSet, n, itsBits);
-            return plan(him, law);
-        }
-
-        int fewestLumps(Him him, Law law, int n, int itsBits) {
-            begin(QUIET, 0, n, itsBits);
-            return -plan(him, law);
-        }
-
-        int remarkAt(int k) {
-            return k >= 0 && k < hours ? at(chosen, k) : NOT;
-        }
-
-        private void begin(int itsAim, int itsSet, int n, int itsBits) {
+        /** The most points of so many hours. To say a thing: by the fewest hours, none where 12 do not do. */
+        int plan(int itsAim, int itsSet, int n, int itsBits, Him him, Law law) {
             aim = itsAim;
             set = itsSet;
             hours = Math.min(n, PLANNED);
@@ -1611,15 +1591,16 @@ public final class StyliteOverheard {
             for (int i = 0; i < worth.length; i++) {
                 worth[i] = NEVER;
             }
-        }
-
-        private int plan(Him him, Law law) {
             int start = him.mood * THINGS + him.last;
             setWorth(start, 0);
             spread(him, law);
             weigh(him);
             walk(him, start);
             return worthAt(start);
+        }
+
+        int remarkAt(int k) {
+            return k >= 0 && k < hours ? at(chosen, k) : NOT;
         }
 
         /** Finds how he may be, hour by hour; hours to say a thing end with the first in which he may. */
