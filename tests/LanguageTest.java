@@ -152,9 +152,9 @@ public final class LanguageTest {
     private static void made() {
         com.sun.management.ThreadMXBean threads = (com.sun.management.ThreadMXBean) ManagementFactory.getThreadMXBean();
         long self = Thread.currentThread().getId();
-        dearest(new StyliteOverheard());
+        dearest(new Stylite());
         long before = threads.getThreadAllocatedBytes(self);
-        StyliteOverheard x = new StyliteOverheard();
+        Stylite x = new Stylite();
         long behind = threads.getThreadAllocatedBytes(self);
         fault(behind - before > 100000, "a new object takes " + (behind - before) + " bytes");
         dearest(x);
@@ -162,7 +162,7 @@ public final class LanguageTest {
         fault(last - behind > 100000, "calls make " + (last - behind) + " bytes");
     }
 
-    private static void dearest(StyliteOverheard x) {
+    private static void dearest(Stylite x) {
         Due.law(x, "m*7+r*3+l/2+h%5");
         for (int i = 0; i < 6; i++) {
             x.stall(21845 + i, 10);

@@ -5,7 +5,7 @@ public final class LawTest {
 
     private static int wrong;
     private static int tapes;
-    private static StyliteOverheard x = new StyliteOverheard();
+    private static Stylite x = new Stylite();
     private static Oracle o = new Oracle();
 
     public static void main(String[] args) {
@@ -40,8 +40,8 @@ public final class LawTest {
 
     private static void check(String text) {
         tapes++;
-        if (tapes % 40 == 0) {
-            x = new StyliteOverheard();
+        if (tapes % 20 == 0) {
+            x = new Stylite();
             o = new Oracle();
         }
         for (int i = 0; i < text.length(); i++) {

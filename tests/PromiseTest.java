@@ -55,8 +55,8 @@ public final class PromiseTest {
     }
 
     /** Ruled, with two stalls, two schools, a change, a body acted, a row of bytes on shelf 0, ints on 1, a body on 2. */
-    private static StyliteOverheard furnished(String law) {
-        StyliteOverheard x = Due.ruled(law);
+    private static Stylite furnished(String law) {
+        Stylite x = Due.ruled(law);
         x.stall(65535, 3);
         x.stall(2, 5);
         x.school(2);
@@ -74,7 +74,7 @@ public final class PromiseTest {
 
     private static void newObject() {
         due.promise(1);
-        StyliteOverheard x = Due.made();
+        Stylite x = Due.made();
         int[] first = {0, 0, 0, 6, 1, 5, 7, BAD, BAD, BAD, BAD, BAD, BAD};
         for (int what = 0; what < first.length; what++) {
             due.is("of(0, " + what + ")", x.of(0, what), first[what]);
@@ -94,7 +94,7 @@ public final class PromiseTest {
         for (int remark = 0; remark < 10; remark++) {
             due.is("thing(" + remark + ")", x.thing(remark), 3 * remark % 16);
         }
-        StyliteOverheard other = Due.made();
+        Stylite other = Due.made();
         other.hour(5);
         other.stall(1, 1);
         due.is("count(0) beside another", x.count(0), 0);
@@ -108,16 +108,16 @@ public final class PromiseTest {
 
     private static void stallCalls() {
         due.promise(2);
-        StyliteOverheard x = Due.made();
+        Stylite x = Due.made();
         due.is("stall(0, 0)", x.stall(0, 0), 0);
         due.is("stall(65535, 99)", x.stall(65535, 99), 1);
-        String before = Due.state(x);
+        String before = Probe.seen(x);
         due.is("stall(-1, 0)", x.stall(-1, 0), BAD);
         due.is("stall(65536, 0)", x.stall(65536, 0), BAD);
         due.is("stall(0, -1)", x.stall(0, -1), BAD);
         due.is("stall(0, 100)", x.stall(0, 100), BAD);
         due.is("stall(least, least)", x.stall(LEAST, LEAST), BAD);
-        due.same("a refused stall", before, Due.state(x));
+        due.same("a refused stall", before, Probe.seen(x));
         for (int i = 2; i < 6; i++) {
             due.is("stall(" + i + ", 7)", x.stall(i, 7), i);
         }
@@ -125,18 +125,18 @@ public final class PromiseTest {
         due.is("PRICE", x.of(1, 8), 99);
         due.is("CELL", x.of(1, 9), 0);
         due.is("sold", x.of(1, 11), 0);
-        before = Due.state(x);
+        before = Probe.seen(x);
         due.is("a seventh stall", x.stall(1, 1), FULL);
         due.is("a seventh wrong stall", x.stall(-1, 1), BAD);
-        due.same("a stall too many", before, Due.state(x));
+        due.same("a stall too many", before, Probe.seen(x));
         due.is("changes", x.count(3), 0);
     }
 
     private static void stallsCalls() {
         due.promise(3);
-        StyliteOverheard x = Due.made();
+        Stylite x = Due.made();
         Due.lay(x, 0, 2, 9, 65535, 99, 9, 0, 0, 0, 5);
-        String before = Due.state(x);
+        String before = Probe.seen(x);
         due.is("i below 0", x.stalls(0, -1, 1), 0);
         due.is("i least", x.stalls(0, LEAST, 1), 0);
         due.is("i at the end", x.stalls(0, 8, 1), 0);
@@ -148,7 +148,7 @@ public final class PromiseTest {
         due.is("n 0", x.stalls(0, 1, 0), BAD);
         due.is("n 7", x.stalls(0, 1, 7), BAD);
         due.is("n 0 of nothing", x.stalls(1, 0, 0), BAD);
-        due.same("stalls of none", before, Due.state(x));
+        due.same("stalls of none", before, Probe.seen(x));
         Due.lay(x, 1, 0, 1, 1, 1);
         Due.lay(x, 2, 3, 1, 1, 1);
         x.body(0);
@@ -185,7 +185,7 @@ public final class PromiseTest {
 
     private static void schoolCalls() {
         due.promise(4);
-        StyliteOverheard x = Due.made();
+        Stylite x = Due.made();
         due.is("school(0)", x.school(0), 0);
         due.is("school(65535)", x.school(65535), 1);
         due.is("school(-1)", x.school(-1), BAD);
@@ -194,10 +194,10 @@ public final class PromiseTest {
             due.is("school " + i, x.school(i), i);
         }
         due.is("READS", x.of(1, 10), 65535);
-        String before = Due.state(x);
+        String before = Probe.seen(x);
         due.is("a sixth", x.school(1), FULL);
         due.is("a wrong sixth", x.school(65536), BAD);
-        due.same("a school too many", before, Due.state(x));
+        due.same("a school too many", before, Probe.seen(x));
     }
 
     private static void mendCalls() {
@@ -205,16 +205,16 @@ public final class PromiseTest {
         int[] greatest = {15, 9, 15, 23, 3, 9, 9, 65535, 99, 9, 65535};
         int[] first = {0, 0, 0, 6, 1, 5, 7, 3, 4, 0, 5};
         for (int what = 0; what <= 10; what++) {
-            StyliteOverheard x = Due.made();
+            Stylite x = Due.made();
             x.stall(3, 4);
             x.school(5);
-            String before = Due.state(x);
+            String before = Probe.seen(x);
             due.is(what + " below 0", x.mend(0, what, -1), BAD);
             due.is(what + " too great", x.mend(0, what, greatest[what] + 1), BAD);
             due.is(what + " of another", x.mend(1, what, 0), BAD);
             due.is(what + " of -1", x.mend(-1, what, 0), BAD);
             due.is(what + " of the greatest", x.mend(MOST, what, 0), BAD);
-            due.same("a refused mend", before, Due.state(x));
+            due.same("a refused mend", before, Probe.seen(x));
             due.is(what + " to its greatest", x.mend(0, what, greatest[what]), first[what]);
             due.is(what + " by of()", x.of(0, what), greatest[what]);
             due.is(what + " to 0", x.mend(0, what, 0), greatest[what]);
@@ -222,7 +222,7 @@ public final class PromiseTest {
             due.is(what + " to 0 again", x.mend(0, what, 0), 0);
             due.is("changes", x.count(3), 2);
         }
-        StyliteOverheard x = Due.made();
+        Stylite x = Due.made();
         x.stall(1, 1);
         due.is("what 11", x.mend(0, 11, 0), BAD);
         due.is("what -1", x.mend(0, -1, 0), BAD);
@@ -236,7 +236,7 @@ public final class PromiseTest {
 
     private static void ofCalls() {
         due.promise(6);
-        StyliteOverheard x = Due.ruled("r");
+        Stylite x = Due.ruled("r");
         due.is("no stall", x.of(0, 7), BAD);
         due.is("no stall sold", x.of(0, 11), BAD);
         due.is("no school", x.of(0, 10), BAD);
@@ -265,7 +265,7 @@ public final class PromiseTest {
 
     private static void feedCalls() {
         due.promise(7);
-        StyliteOverheard x = Due.made();
+        Stylite x = Due.made();
         due.is("feed(-1)", x.feed(-1), BAD);
         due.is("feed(256)", x.feed(256), BAD);
         due.is("feed(0)", x.feed(0), 1);
@@ -282,7 +282,7 @@ public final class PromiseTest {
     }
 
     private static void fault(String text, int answer) {
-        StyliteOverheard x = Due.ruled("7");
+        Stylite x = Due.ruled("7");
         due.is("law of " + text, Due.law(x, text), answer);
         due.is("the tape behind " + text, x.count(2), 0);
         if (answer != 1) {
@@ -292,7 +292,7 @@ public final class PromiseTest {
 
     /** What he says by the law; all numbers of his are unlike: m 3, g 9, l 5, h 21, r 4, t 8. */
     private static void worth(String text, int v) {
-        StyliteOverheard x = Due.ruled(text);
+        Stylite x = Due.ruled(text);
         x.mend(0, 0, 3);
         x.mend(0, 1, 9);
         x.mend(0, 2, 5);
@@ -363,7 +363,7 @@ public final class PromiseTest {
         }
         fault(lines.toString(), 1);
         fault(lines.append(';').toString(), -220);
-        StyliteOverheard x = Due.ruled("7");
+        Stylite x = Due.ruled("7");
         due.is("law() of no tape", x.law(), -100);
         due.is("thing behind it", x.thing(0), 7);
         String[] texts = {"m", "g", "l", "h", "r", "t", "12", "0012", "m+r", "m-r", "m*r", "h/r", "h%r", "-m", "!m", "!0",
@@ -412,17 +412,17 @@ public final class PromiseTest {
 
     private static void thingCalls() {
         due.promise(9);
-        StyliteOverheard x = Due.made();
+        Stylite x = Due.made();
         x.mend(0, 0, 15);
         x.mend(0, 1, 9);
         x.mend(0, 2, 15);
         due.is("m, three times r, g, l", x.thing(9), 15 + 27 + 9 + 15 & 15);
         due.is("thing(0)", x.thing(0), 39 & 15);
-        String before = Due.state(x);
+        String before = Probe.seen(x);
         due.is("thing(-1)", x.thing(-1), BAD);
         due.is("thing(10)", x.thing(10), BAD);
         x.thing(3);
-        due.same("thing(3)", before, Due.state(x));
+        due.same("thing(3)", before, Probe.seen(x));
         x = Due.ruled("r+12");
         due.is("thing(3)", x.thing(3), 15);
         due.is("thing(4)", x.thing(4), 0);
@@ -446,8 +446,8 @@ public final class PromiseTest {
 
     private static void hoursCalls() {
         due.promise(10);
-        StyliteOverheard x = furnished("r");
-        String before = Due.state(x);
+        Stylite x = furnished("r");
+        String before = Probe.seen(x);
         refusals("hours", shelf -> x.hours(shelf, 1, 0));
         due.is("n -1", x.hours(0, -1, 0), BAD);
         due.is("n 201", x.hours(0, 201, 0), BAD);
@@ -463,14 +463,14 @@ public final class PromiseTest {
                 due.is("hours(0, " + one[0] + ", " + what + ")", x.hours(0, one[0], what), one[what + 1]);
             }
         }
-        due.same("hours", before, Due.state(x));
+        due.same("hours", before, Probe.seen(x));
         Due.bytes(x, 0, 10, -1, 9, 127, 9);
         due.is("MOOD where 10, -1, 127 are none", x.hours(0, 5, 1), 36 & 15);
         due.is("LAST", x.hours(0, 4, 3), 0);
         x.mend(0, 4, 3);
         due.is("HUNGER by 3", x.hours(0, 2, 2), 6);
         due.is("HUNGER 9 at most", x.hours(0, 4, 2), 9);
-        StyliteOverheard y = Due.ruled("15*(h=8)");
+        Stylite y = Due.ruled("15*(h=8)");
         y.row(0, 0, 0);
         due.is("15 is a lump", y.hours(0, 3, 5), 1);
         due.is("the first lump", y.hours(0, 3, 6), 2);
@@ -489,7 +489,7 @@ public final class PromiseTest {
 
     private static void oftenCalls() {
         due.promise(11);
-        StyliteOverheard x = furnished("r");
+        Stylite x = furnished("r");
         refusals("often", shelf -> x.often(shelf, 1, 0, 0));
         due.is("n -1", x.often(0, -1, 0, 1), BAD);
         due.is("n 201", x.often(0, 201, 0, 1), BAD);
@@ -505,11 +505,11 @@ public final class PromiseTest {
         due.is("the first 3", x.often(0, 0, 3, 1), 3);
         due.is("the first 0", x.often(0, 1, 0, 1), 4);
         due.is("the first 4", x.often(0, 200, 4, 1), NOT);
-        StyliteOverheard y = Due.ruled("m=15&h=0");
+        Stylite y = Due.ruled("m=15&h=0");
         y.row(0, 0, 60);
         y.put(0, 0, 1);
         due.is("never", y.often(0, 0, 1, 1), NOT);
-        StyliteOverheard z = Due.ruled("h=23");
+        Stylite z = Due.ruled("h=23");
         z.row(0, 0, 0);
         due.is("lumps of a thing count, too", z.often(0, 200, 1, 0), 8);
         due.is("the first", z.often(0, 0, 1, 1), 17);
@@ -517,7 +517,7 @@ public final class PromiseTest {
 
     private static void roundCalls() {
         due.promise(12);
-        StyliteOverheard x = Due.ruled("0");
+        Stylite x = Due.ruled("0");
         due.is("what -1", x.round(-1), BAD);
         due.is("what 2", x.round(2), BAD);
         due.is("HUNGER grows nine hours first", x.round(0), 33);
@@ -538,14 +538,14 @@ public final class PromiseTest {
         x.hour(0);
         due.is("just by 999", x.round(0), 999);
         due.is("just by 999: first", x.round(1), 87);
-        String before = Due.state(x);
+        String before = Probe.seen(x);
         x.round(0);
-        due.same("round(0)", before, Due.state(x));
+        due.same("round(0)", before, Probe.seen(x));
     }
 
     private static void makeCalls() {
         due.promise(13);
-        StyliteOverheard x = Due.ruled("r");
+        Stylite x = Due.ruled("r");
         due.is("tr -1", x.make(-1, -1), BAD);
         due.is("tr 16384", x.make(16384, -1), BAD);
         due.is("k -2", x.make(0, -2), BAD);
@@ -560,7 +560,7 @@ public final class PromiseTest {
         due.is("1 by none told", x.make(1024, -1), NOT);
         due.is("0 by 1 alone", x.make(2, -1), NOT);
         x = Due.ruled("m");
-        String before = Due.state(x);
+        String before = Probe.seen(x);
         due.is("3 by any", x.make(3 * 1024 + 1023, -1), 2);
         due.is("3's remarks", x.make(3 * 1024 + 1023, 0), 3);
         due.is("3's remarks", x.make(3 * 1024 + 1023, 1), 0);
@@ -571,7 +571,7 @@ public final class PromiseTest {
         due.is("6 by 2, 3, 4: 2 and 2", x.make(6 * 1024 + 28, 0), 2);
         due.is("6 by 2, 3, 4: two hours and one", x.make(6 * 1024 + 28, -1), 3);
         due.is("6 by 2, 3, 4: the last is any", x.make(6 * 1024 + 28, 2), 2);
-        due.same("make", before, Due.state(x));
+        due.same("make", before, Probe.seen(x));
         x = Due.ruled("h");
         due.is("in the twelfth hour", x.make(1024 + 1, -1), 12);
         due.is("the twelfth's remark", x.make(1024 + 6, 11), 1);
@@ -580,7 +580,7 @@ public final class PromiseTest {
 
     private static void reciteCalls() {
         due.promise(14);
-        StyliteOverheard x = furnished("r");
+        Stylite x = furnished("r");
         refusals("recite", shelf -> x.recite(shelf, -1));
         due.is("k -3", x.recite(0, -3), BAD);
         due.is("k -3 of nothing", x.recite(3, -3), BAD);
@@ -603,7 +603,7 @@ public final class PromiseTest {
         due.is("of nothing", x.recite(0, -1), 1);
         due.is("of nothing: sure", x.recite(0, -2), 0);
         due.is("of nothing: k 0", x.recite(0, 0), NOT);
-        StyliteOverheard y = Due.ruled("r/2");
+        Stylite y = Due.ruled("r/2");
         Due.bytes(y, 0, 0, 1, 4);
         int[] remarks = {0, 2, 8};
         for (int k = 0; k < 3; k++) {
@@ -633,7 +633,7 @@ public final class PromiseTest {
 
     private static void waysToCalls() {
         due.promise(15);
-        StyliteOverheard x = furnished("r/2");
+        Stylite x = furnished("r/2");
         due.is("shelf -1", x.waysTo(-1), NONE);
         due.is("shelf 6", x.waysTo(6), NONE);
         due.is("a row of ints", x.waysTo(1), NONE);
@@ -659,7 +659,7 @@ public final class PromiseTest {
 
     private static void mostCalls() {
         due.promise(16);
-        StyliteOverheard x = Due.ruled("r");
+        Stylite x = Due.ruled("r");
         due.is("set -1", x.most(-1, 1024, -1), BAD);
         due.is("set 65536", x.most(65536, 1024, -1), BAD);
         due.is("n 0", x.most(0, 1023, -1), BAD);
@@ -667,7 +667,7 @@ public final class PromiseTest {
         due.is("nr -1", x.most(0, -1, -1), BAD);
         due.is("nr greatest", x.most(0, MOST, -1), BAD);
         due.is("k -2", x.most(0, 1024, -2), BAD);
-        String before = Due.state(x);
+        String before = Probe.seen(x);
         due.is("9 in 3", x.most(512, 3 * 1024 + 1023, -1), 3);
         for (int k = 0; k < 3; k++) {
             due.is("9's remarks", x.most(512, 3 * 1024 + 1023, k), 9);
@@ -682,7 +682,7 @@ public final class PromiseTest {
         due.is("none told: 0", x.most(1, 12 * 1024, 11), 0);
         due.is("all in 12", x.most(65535, 12 * 1024 + 1023, -1), 12);
         due.is("none of a set", x.most(0, 12 * 1024 + 1023, -1), 0);
-        due.same("most", before, Due.state(x));
+        due.same("most", before, Probe.seen(x));
         x = Due.ruled("m");
         due.is("15 from the second hour on", x.most(32768, 3 * 1024 + 1023, -1), 1);
         due.is("15 by 6 and then 9", x.most(32768, 3 * 1024 + 1023, 0), 3);
@@ -693,7 +693,7 @@ public final class PromiseTest {
 
     private static void quietCalls() {
         due.promise(17);
-        StyliteOverheard x = Due.ruled("15");
+        Stylite x = Due.ruled("15");
         due.is("n 0", x.quiet(1023, -1), BAD);
         due.is("n 13", x.quiet(13312, -1), BAD);
         due.is("nr least", x.quiet(LEAST, -1), BAD);
@@ -704,14 +704,14 @@ public final class PromiseTest {
         due.is("no sixth", x.quiet(5 * 1024 + 1023, 5), NOT);
         x = Due.ruled("r");
         x.mend(0, 6, 0);
-        String before = Due.state(x);
+        String before = Probe.seen(x);
         due.is("never like the last", x.quiet(3 * 1024 + 3, -1), 0);
         due.is("first 1", x.quiet(3 * 1024 + 3, 0), 1);
         due.is("then 0", x.quiet(3 * 1024 + 3, 1), 0);
         due.is("then 1", x.quiet(3 * 1024 + 3, 2), 1);
         due.is("0 alone", x.quiet(3 * 1024, -1), 3);
         due.is("1 alone", x.quiet(3 * 1024 + 2, -1), 2);
-        due.same("quiet", before, Due.state(x));
+        due.same("quiet", before, Probe.seen(x));
         x.mend(0, 6, 2);
         due.is("HUNGER below TEMPER twice", x.quiet(3 * 1024, -1), 1);
         x = Due.ruled("r*5");
@@ -721,7 +721,7 @@ public final class PromiseTest {
 
     private static void tellsMostCalls() {
         due.promise(18);
-        StyliteOverheard x = Due.ruled("r");
+        Stylite x = Due.ruled("r");
         due.is("n 0", x.tellsMost(0, 0), BAD);
         due.is("n 13", x.tellsMost(13, 0), BAD);
         due.is("what -1", x.tellsMost(1, -1), BAD);
@@ -736,10 +736,10 @@ public final class PromiseTest {
         due.is("8 tells", x.tellsMost(3, 0), 8);
         due.is("8 tells", x.tellsMost(3, 1), 2);
         x = Due.ruled("m&m%4");
-        String before = Due.state(x);
+        String before = Probe.seen(x);
         due.is("by MOOD", x.tellsMost(2, 0), 1);
         due.is("by MOOD", x.tellsMost(2, 1), 1);
-        due.same("tellsMost", before, Due.state(x));
+        due.same("tellsMost", before, Probe.seen(x));
         x = Due.ruled("m/9");
         due.is("9 alone tells", x.tellsMost(4, 0), 9);
         due.is("in the first alone", x.tellsMost(4, 1), 1);
@@ -747,20 +747,20 @@ public final class PromiseTest {
 
     private static void soldCalls() {
         due.promise(19);
-        StyliteOverheard x = furnished("r");
+        Stylite x = furnished("r");
         refusals("sold", shelf -> x.sold(shelf, 1, -1));
         due.is("n -1", x.sold(0, -1, -1), BAD);
         due.is("n 201", x.sold(0, 201, -1), BAD);
         due.is("stall -2", x.sold(0, 1, -2), BAD);
         due.is("stall 2", x.sold(0, 1, 2), BAD);
         due.is("stall 2 of nothing", x.sold(3, 1, 2), BAD);
-        String before = Due.state(x);
+        String before = Probe.seen(x);
         due.is("no hours", x.sold(0, 0, -1), 0);
         due.is("stall 0 in 3", x.sold(0, 3, 0), 3);
         due.is("stall 1 in 3", x.sold(0, 3, 1), 1);
         due.is("pence in 3", x.sold(0, 3, -1), 14);
         due.is("pence in 200", x.sold(0, 200, -1), 605);
-        due.same("sold", before, Due.state(x));
+        due.same("sold", before, Probe.seen(x));
         x.mend(0, 5, 4);
         due.is("CELL is LOUD", x.sold(0, 3, 1), 1);
         x.mend(0, 5, 3);
@@ -770,12 +770,12 @@ public final class PromiseTest {
 
     private static void placesCalls() {
         due.promise(20);
-        StyliteOverheard x = furnished("h");
+        Stylite x = furnished("h");
         refusals("places", shelf -> x.places(shelf, 1));
         due.is("n -1", x.places(0, -1), BAD);
         due.is("n 201", x.places(0, 201), BAD);
         due.is("n 201 of nothing", x.places(3, 201), BAD);
-        StyliteOverheard y = Due.ruled("h+r");
+        Stylite y = Due.ruled("h+r");
         y.stall(64, 1);
         y.stall(128, 10);
         y.stall(256, 99);
@@ -791,14 +791,14 @@ public final class PromiseTest {
         due.is("in one hour", y.places(0, 1), 0);
         due.is("in two", y.places(0, 2), 10);
         due.is("in none", y.places(0, 0), 0);
-        String before = Due.state(y);
+        String before = Probe.seen(y);
         y.places(0, 200);
-        due.same("places", before, Due.state(y));
+        due.same("places", before, Probe.seen(y));
     }
 
     private static void bestCalls() {
         due.promise(21);
-        StyliteOverheard x = Due.ruled("h");
+        Stylite x = Due.ruled("h");
         due.is("no stalls", x.best(3, -1), 0);
         due.is("no stalls, k 0", x.best(3, 0), NOT);
         x.stall(64, 1);
@@ -808,10 +808,10 @@ public final class PromiseTest {
         due.is("n -1", x.best(-1, -1), BAD);
         due.is("n 201", x.best(201, -1), BAD);
         due.is("k -2", x.best(3, -2), BAD);
-        String before = Due.state(x);
+        String before = Probe.seen(x);
         order(x, 3, 110, 0, 1, 2);
         order(x, 0, 0, 0, 1, 2);
-        due.same("best", before, Due.state(x));
+        due.same("best", before, Probe.seen(x));
         x.mend(0, 5, 1);
         order(x, 3, 109, 1, 2, 0);
         order(x, 2, 11, 0, 1, 2);
@@ -836,7 +836,7 @@ public final class PromiseTest {
         order(x, 10, 280, 0, 1, 2, 3, 4, 5);
     }
 
-    private static void order(StyliteOverheard x, int n, int pence, int... stalls) {
+    private static void order(Stylite x, int n, int pence, int... stalls) {
         due.is("best pence of " + n, x.best(n, -1), pence);
         for (int k = 0; k < stalls.length; k++) {
             due.is("best of " + n + ", stall " + k, x.best(n, k), stalls[k]);
@@ -847,7 +847,7 @@ public final class PromiseTest {
 
     private static void whenCalls() {
         due.promise(22);
-        StyliteOverheard x = Due.ruled("h+r");
+        Stylite x = Due.ruled("h+r");
         due.is("no stall", x.when(0, 1, 0), BAD);
         x.stall(1, 1);
         x.stall(1, 1);
@@ -879,14 +879,14 @@ public final class PromiseTest {
         x.mend(0, 7, 2);
         due.is("from the first row on", x.when(0, 24, 0), 0);
         x.mend(0, 3, 4);
-        String before = Due.state(x);
+        String before = Probe.seen(x);
         due.is("nearer by two hours less", x.when(0, 1, 0), 1);
-        due.same("when", before, Due.state(x));
+        due.same("when", before, Probe.seen(x));
     }
 
     private static void verdictCalls() {
         due.promise(23);
-        StyliteOverheard x = furnished("r");
+        Stylite x = furnished("r");
         refusals("verdict", shelf -> x.verdict(shelf, 0));
         due.is("school -1", x.verdict(0, -1), BAD);
         due.is("school 2", x.verdict(0, 2), BAD);
@@ -915,7 +915,7 @@ public final class PromiseTest {
 
     private static void clashCalls() {
         due.promise(24);
-        StyliteOverheard x = furnished("r");
+        Stylite x = furnished("r");
         refusals("clash", shelf -> x.clash(shelf, 0));
         due.is("school -1", x.clash(0, -1), BAD);
         due.is("school 2", x.clash(0, 2), BAD);
@@ -934,7 +934,7 @@ public final class PromiseTest {
 
     private static void judgeCalls() {
         due.promise(25);
-        StyliteOverheard x = furnished("r");
+        Stylite x = furnished("r");
         refusals("judge", shelf -> x.judge(shelf, 0));
         due.is("school -1", x.judge(0, -1), BAD);
         due.is("school 2", x.judge(0, 2), BAD);
@@ -958,7 +958,7 @@ public final class PromiseTest {
 
     private static void readCalls() {
         due.promise(26);
-        StyliteOverheard x = furnished("r");
+        Stylite x = furnished("r");
         refusals("read", shelf -> x.read(shelf, 0));
         due.is("what -1", x.read(0, -1), BAD);
         due.is("what 2", x.read(0, 2), BAD);
@@ -985,23 +985,23 @@ public final class PromiseTest {
 
     private static void drawnCalls() {
         due.promise(27);
-        StyliteOverheard x = Due.ruled("h");
+        Stylite x = Due.ruled("h");
         int[][] bad = {{0, 101, 0, -1}, {0, 101, 0, 2}, {0, 1, 0, 0}, {0, 100, 0, 0}, {0, 125, 0, 0}, {0, 3101, 0, 0},
             {0, -101, 0, 0}, {0, 101, -1, 0}, {0, 101, 13, 0}, {0, 101, 1600, 0}, {0, 101, -100, 0}, {0, MOST, 0, 0},
             {0, 101, MOST, 0}, {0, LEAST, LEAST, 0}};
         for (int[] one : bad) {
             due.is("drawn", x.drawn(one[0], one[1], one[2], one[3]), BAD);
         }
-        String before = Due.state(x);
+        String before = Probe.seen(x);
         due.is("each night from now: 15", x.drawn(5, 310, 0, 0), 3);
         due.is("each night from now: not yet 15", x.drawn(5, 309, 0, 0), 0);
         due.is("how often 6", x.drawn(5, 3001, 600, 1), 30);
         due.is("how often 7", x.drawn(5, 3001, 700, 1), 0);
         due.is("a lump's thing", x.drawn(5, 110, 1500, 1), 1);
-        due.same("drawn", before, Due.state(x));
-        x = Due.ruled("r");
+        due.same("drawn", before, Probe.seen(x));
         int[] seeds = {0, 1, -1, LEAST, MOST, 123456789};
         for (int seed : seeds) {
+            x = Due.ruled("r");
             for (int talks = 0; talks <= 12; talks++) {
                 int[] times = drawnTimes(seed, 30 * 24, talks);
                 for (int thing = 0; thing < 10; thing++) {
@@ -1025,14 +1025,14 @@ public final class PromiseTest {
 
     private static void hourCalls() {
         due.promise(28);
-        StyliteOverheard x = Due.ruled("r+6*(r=9)");
+        Stylite x = Due.ruled("r+6*(r=9)");
         x.stall(2, 5);
         x.stall(32770, 7);
         x.mend(1, 9, 6);
-        String before = Due.state(x);
+        String before = Probe.seen(x);
         due.is("hour(-1)", x.hour(-1), BAD);
         due.is("hour(10)", x.hour(10), BAD);
-        due.same("a refused hour", before, Due.state(x));
+        due.same("a refused hour", before, Probe.seen(x));
         due.is("hour(1)", x.hour(1), 1);
         due.is("sold by 0", x.of(0, 11), 1);
         due.is("too far", x.of(1, 11), 0);
@@ -1058,12 +1058,12 @@ public final class PromiseTest {
 
     private static void fedCalls() {
         due.promise(29);
-        StyliteOverheard x = Due.made();
+        Stylite x = Due.made();
         x.mend(0, 1, 9);
-        String before = Due.state(x);
+        String before = Probe.seen(x);
         due.is("fed(-1)", x.fed(-1), BAD);
         due.is("fed(10)", x.fed(10), BAD);
-        due.same("a refused feeding", before, Due.state(x));
+        due.same("a refused feeding", before, Probe.seen(x));
         due.is("fed(0)", x.fed(0), 9);
         due.is("fed(4)", x.fed(4), 5);
         due.is("fed(6)", x.fed(6), 0);
@@ -1075,7 +1075,7 @@ public final class PromiseTest {
 
     private static void ledCalls() {
         due.promise(30);
-        StyliteOverheard x = Due.ruled("15*(r=1)+r");
+        Stylite x = Due.ruled("15*(r=1)+r");
         x.stall(5, 3);
         x.hour(0);
         x.hour(2);
@@ -1099,13 +1099,13 @@ public final class PromiseTest {
 
     private static void imageCalls() {
         due.promise(31);
-        StyliteOverheard x = Due.made();
+        Stylite x = Due.made();
         due.is("image()", x.image(), 0);
         x.hour(1);
         x.hour(2);
-        String before = Due.state(x);
+        String before = Probe.seen(x);
         due.is("image() behind two hours", x.image(), 2);
-        due.same("image()", before, Due.state(x));
+        due.same("image()", before, Probe.seen(x));
         x.hour(3);
         due.is("image() anew", x.image(), 3);
         x.hour(3);
@@ -1115,7 +1115,7 @@ public final class PromiseTest {
 
     private static void backCalls() {
         due.promise(32);
-        StyliteOverheard x = Due.made();
+        Stylite x = Due.made();
         due.is("none", x.back(), STATE);
         x.stall(65535, 2);
         x.hour(3);
@@ -1151,10 +1151,10 @@ public final class PromiseTest {
 
     private static void undoCalls() {
         due.promise(33);
-        StyliteOverheard x = Due.made();
-        String before = Due.state(x);
+        Stylite x = Due.made();
+        String before = Probe.seen(x);
         due.is("none", x.undo(), STATE);
-        due.same("undo() of none", before, Due.state(x));
+        due.same("undo() of none", before, Probe.seen(x));
         x.stall(3, 4);
         x.school(9);
         int[] told = {1, 2, 3, 4, 0, 6, 8, 5, 7, 2, 77};
@@ -1205,10 +1205,10 @@ public final class PromiseTest {
 
     private static void redoCalls() {
         due.promise(34);
-        StyliteOverheard x = Due.made();
-        String before = Due.state(x);
+        Stylite x = Due.made();
+        String before = Probe.seen(x);
         due.is("none", x.redo(), STATE);
-        due.same("redo() of none", before, Due.state(x));
+        due.same("redo() of none", before, Probe.seen(x));
         x.stall(3, 4);
         x.school(9);
         x.mend(0, 0, 5);
@@ -1254,7 +1254,7 @@ public final class PromiseTest {
 
     private static void bodyCalls() {
         due.promise(35);
-        StyliteOverheard x = Due.made();
+        Stylite x = Due.made();
         due.is("kind -1", x.body(-1), BAD);
         due.is("kind 8", x.body(8), BAD);
         for (int i = 0; i < 50; i++) {
@@ -1272,7 +1272,7 @@ public final class PromiseTest {
 
     private static void actCalls() {
         due.promise(36);
-        StyliteOverheard x = Due.made();
+        Stylite x = Due.made();
         for (int kind = 0; kind < 8; kind++) {
             x.body(kind);
         }
@@ -1311,7 +1311,7 @@ public final class PromiseTest {
 
     private static void traceCalls() {
         due.promise(37);
-        StyliteOverheard x = Due.made();
+        Stylite x = Due.made();
         x.body(5);
         x.act(0, 3, 1);
         due.is("the first", x.trace(0), 61);
@@ -1329,17 +1329,17 @@ public final class PromiseTest {
 
     private static void keepCalls() {
         due.promise(38);
-        StyliteOverheard x = Due.made();
+        Stylite x = Due.made();
         due.is("no such body", x.keep(0, 0), BAD);
         x.body(4);
         x.body(7);
         Due.bytes(x, 0, 5);
-        String before = Due.state(x);
+        String before = Probe.seen(x);
         due.is("shelf -1", x.keep(-1, 0), BAD);
         due.is("shelf 6", x.keep(6, 0), BAD);
         due.is("body -2", x.keep(0, -2), BAD);
         due.is("body 2", x.keep(0, 2), BAD);
-        due.same("a refused keep", before, Due.state(x));
+        due.same("a refused keep", before, Probe.seen(x));
         due.is("keep(0, 1)", x.keep(0, 1), 1);
         due.is("its kind", x.taken(0, 0), 7);
         due.is("no row any more", x.put(0, 0, 1), -12);
@@ -1353,10 +1353,10 @@ public final class PromiseTest {
 
     private static void rowCalls() {
         due.promise(39);
-        StyliteOverheard x = Due.made();
+        Stylite x = Due.made();
         x.body(0);
         x.keep(0, 0);
-        String before = Due.state(x);
+        String before = Probe.seen(x);
         due.is("shelf -1", x.row(-1, 0, 1), BAD);
         due.is("shelf 6", x.row(6, 0, 1), BAD);
         due.is("sort -1", x.row(0, -1, 1), BAD);
@@ -1366,8 +1366,9 @@ public final class PromiseTest {
         due.is("n least", x.row(0, 4, LEAST), -14);
         due.is("sort 5, n -1", x.row(0, 5, -1), BAD);
         due.is("shelf 6, n -1", x.row(6, 0, -1), BAD);
-        due.same("a refused row", before, Due.state(x));
+        due.same("a refused row", before, Probe.seen(x));
         for (int sort = 0; sort < 5; sort++) {
+            x = Due.made();
             due.is("sixty", x.row(0, sort, 60), 1);
             for (int i = 0; i < 60; i++) {
                 due.is("0 at first", x.element(0, i), 0);
@@ -1383,8 +1384,8 @@ public final class PromiseTest {
 
     private static void putCalls() {
         due.promise(40);
-        StyliteOverheard x = furnished("r");
-        String before = Due.state(x);
+        Stylite x = furnished("r");
+        String before = Probe.seen(x);
         due.is("shelf -1", x.put(-1, 0, 1), BAD);
         due.is("shelf 6", x.put(6, 0, 1), BAD);
         due.is("nothing", x.put(3, 0, 1), -11);
@@ -1392,7 +1393,7 @@ public final class PromiseTest {
         due.is("place -1", x.put(0, -1, 1), -13);
         due.is("place 3", x.put(0, 3, 1), -13);
         due.is("place greatest", x.put(0, MOST, 1), -13);
-        due.same("a refused put", before, Due.state(x));
+        due.same("a refused put", before, Probe.seen(x));
         long[] told = {0, 1, 127, 128, 255, 256, 32767, 32768, 65536, 2147483647L, 2147483648L, 4294967296L,
             Long.MAX_VALUE, Long.MIN_VALUE + 1, -1, -129};
         for (int sort = 0; sort < 5; sort++) {
@@ -1408,7 +1409,7 @@ public final class PromiseTest {
 
     private static void elementCalls() {
         due.promise(41);
-        StyliteOverheard x = furnished("r");
+        Stylite x = furnished("r");
         due.is("the first", x.element(0, 0), 1);
         due.is("the last", x.element(0, 2), 3);
         due.is("of ints", x.element(1, 1), 8);
@@ -1423,9 +1424,9 @@ public final class PromiseTest {
 
     private static void shiftCalls() {
         due.promise(42);
-        StyliteOverheard x = furnished("r");
+        Stylite x = furnished("r");
         Due.bytes(x, 4, 9, 9, 9, 9, 9);
-        String before = Due.state(x);
+        String before = Probe.seen(x);
         due.is("shelf -1", x.shift(-1, 0, 0, 0, 0), BAD);
         due.is("shelf 6", x.shift(6, 0, 0, 0, 0), BAD);
         due.is("other -1", x.shift(0, 0, -1, 0, 0), BAD);
@@ -1448,7 +1449,7 @@ public final class PromiseTest {
         due.is("i greatest", x.shift(0, MOST, 4, 0, 1), -13);
         due.is("j greatest", x.shift(0, 0, 4, MOST, MOST), -13);
         due.is("none at the ends", x.shift(0, 3, 4, 5, 0), 0);
-        due.same("a refused shift", before, Due.state(x));
+        due.same("a refused shift", before, Probe.seen(x));
         due.is("all", x.shift(0, 0, 4, 1, 3), 3);
         items(x, 4, 9, 1, 2, 3, 9);
         items(x, 0, 1, 2, 3);
@@ -1463,7 +1464,7 @@ public final class PromiseTest {
         items(x, 5, 1, 1, 0);
     }
 
-    private static void items(StyliteOverheard x, int shelf, long... all) {
+    private static void items(Stylite x, int shelf, long... all) {
         for (int i = 0; i < all.length; i++) {
             due.is("item " + i, x.element(shelf, i), all[i]);
         }
@@ -1472,7 +1473,7 @@ public final class PromiseTest {
 
     private static void takenCalls() {
         due.promise(43);
-        StyliteOverheard x = Due.made();
+        Stylite x = Due.made();
         int[] above = {-1, 0, 0, 2, 1, 3, 0, 6};
         for (int kind = 0; kind < 8; kind++) {
             x.body(kind);
@@ -1497,7 +1498,7 @@ public final class PromiseTest {
 
     private static void countCalls() {
         due.promise(44);
-        StyliteOverheard x = furnished("r");
+        Stylite x = furnished("r");
         int[] all = {2, 2, 1, 1, 2, 4};
         for (int what = 0; what < 6; what++) {
             due.is("count(" + what + ")", x.count(what), all[what]);
