@@ -26,6 +26,7 @@ public final class DeedEdgesTest {
         backAgain();
         undoNone();
         undoLatestFirst();
+        undoOfSeveral();
         undoForty();
         undoBehindDeeds();
         redoNone();
@@ -323,12 +324,14 @@ public final class DeedEdgesTest {
     }
 
     private static void backLaysBack() {
-        Stylite x = Due.made();
+        Stylite x = Due.ruled("r+6*(r=9)");
         x.stall(65535, 2);
         x.mend(0, 0, 11);
         x.mend(0, 1, 4);
         x.mend(0, 2, 13);
         x.mend(0, 3, 17);
+        x.hour(9);
+        x.hour(0);
         x.hour(3);
         x.fed(1);
         x.image();
@@ -343,17 +346,21 @@ public final class DeedEdgesTest {
         x.fed(0);
         x.mend(0, 0, 1);
         x.mend(0, 1, 2);
-        x.mend(0, 2, 3);
+        x.mend(0, 2, 8);
         x.mend(0, 3, 4);
         due.test(32, "It is laid back: hours");
-        due.is("back", x.back(), 1);
+        due.is("back", x.back(), 3);
         String[] names = {"MOOD", "HUNGER", "LAST", "HOUR", "hours", "LUMPS", "REMARKS", "pence", "feedings"};
         for (int i = 0; i < 9; i++) {
             due.test(32, "It is laid back: " + names[i]);
             due.is(names[i], i < 4 ? x.of(0, i) : x.led(i - 4), kept[i]);
         }
-        due.is("pence", kept[7], 2);
-        due.is("feedings", kept[8], 1);
+        due.test(32, "what was kept");
+        // MOOD: 11, with 15 and 9 it is 3, with 3 and 3 it is 9
+        int[] all = {9, 6, 3, 20, 3, 1, 2, 6, 1};
+        for (int i = 0; i < 9; i++) {
+            due.is(names[i], kept[i], all[i]);
+        }
     }
 
     private static void backLeavesTheRest() {
@@ -460,6 +467,45 @@ public final class DeedEdgesTest {
             }
         }
         due.is("none", x.undo(), STATE);
+    }
+
+    private static void undoOfSeveral() {
+        due.test(33, "all numbers of mend(): of each STALL and SCHOOL its own");
+        Stylite x = Due.made();
+        Laid.fullOfStalls(x);
+        Laid.fullOfSchools(x);
+        for (int what = 7; what <= 10; what++) {
+            for (int number = what == 10 ? 4 : 5; number >= 0; number--) {
+                x.mend(number, what, 9);
+            }
+        }
+        for (int what = 10; what >= 7; what--) {
+            for (int number = 0; number <= (what == 10 ? 4 : 5); number++) {
+                due.is("of(" + number + ", " + what + ")", x.of(number, what), 9);
+                x.undo();
+                due.is("of(" + number + ", " + what + ") then", x.of(number, what), what == 9 ? 0 : number);
+            }
+        }
+        due.test(34, "all numbers of mend(): of each STALL and SCHOOL its own");
+        for (int what = 7; what <= 10; what++) {
+            for (int number = what == 10 ? 4 : 5; number >= 0; number--) {
+                due.is("of(" + number + ", " + what + ")", x.of(number, what), what == 9 ? 0 : number);
+                x.redo();
+                due.is("of(" + number + ", " + what + ") again", x.of(number, what), 9);
+            }
+        }
+        due.test(33, "40 at most are kept: the numbers of those kept");
+        x = Due.made();
+        Laid.fullOfStalls(x);
+        for (int i = 0; i < 60; i++) {
+            x.mend(i % 6, 7 + i % 2, 10 + i);
+        }
+        for (int i = 59; i >= 20; i--) {
+            due.is("the latest", x.of(i % 6, 7 + i % 2), 10 + i);
+            x.undo();
+            due.is("the one ahead of it", x.of(i % 6, 7 + i % 2), 4 + i);
+        }
+        due.is("no more", x.undo(), STATE);
     }
 
     /** MOOD is told so many times, each time another: 1 on to 15, then 1 again. */

@@ -14,6 +14,7 @@ public final class HimEdgesTest {
     private static final Due due = new Due("HimEdgesTest");
 
     public static void main(String[] args) {
+        constants();
         atFirst();
         atFirstNothing();
         ofItsOwn();
@@ -41,6 +42,7 @@ public final class HimEdgesTest {
         lawSixOpen();
         lawOfFullTape();
         lawBehindFault();
+        lawAgain();
         lawEmptiesTape();
         lawNames();
         lawNumbersAndSigns();
@@ -55,6 +57,15 @@ public final class HimEdgesTest {
     }
 
     // ---- 1: a new object
+
+    private static void constants() {
+        due.test(1, "BAD = -1, NOT = -2, FULL = -3, STATE = -5, VOID = -2000000000");
+        due.is("BAD", StyliteOverheard.BAD, -1);
+        due.is("NOT", StyliteOverheard.NOT, -2);
+        due.is("FULL", StyliteOverheard.FULL, -3);
+        due.is("STATE", StyliteOverheard.STATE, -5);
+        due.is("VOID", StyliteOverheard.VOID, -2000000000);
+    }
 
     private static void atFirst() {
         Stylite x = Due.made();
@@ -616,6 +627,19 @@ public final class HimEdgesTest {
         due.is("thing behind it", x.thing(0), 9);
     }
 
+    private static void lawAgain() {
+        due.test(8, "THE TAPE becomes THE LAW: the latest text alone");
+        Stylite x = Due.made();
+        String[] texts = {"7", "h", "0?5;m+3", "r=1?9;2", "12", "0?1", "5;6;7", "(r)*3", "0", "0", "8", "9"};
+        int[] things = {7, 6, 3, 9, 12, 0, 5, 3, 0, 0, 8, 9};
+        for (int i = 0; i < texts.length; i++) {
+            due.is("law of \"" + texts[i] + "\"", Due.law(x, texts[i]), 1);
+            due.is("thing by \"" + texts[i] + "\"", x.thing(1), things[i]);
+            due.is("law of a fault behind it", Due.law(x, i < 6 ? "4;3?2+" : "0+"), i < 6 ? -106 : -102);
+            due.is("thing by \"" + texts[i] + "\" still", x.thing(1), things[i]);
+        }
+    }
+
     private static void lawEmptiesTape() {
         due.test(8, "THE TAPE is empty then");
         Stylite x = Due.made();
@@ -806,6 +830,9 @@ public final class HimEdgesTest {
         says("0?9;5", 5);
         says("m-3?9;g-9?7;h?6;5", 6);
         says("m=3?0;5", 0);
+        says("0?0;5", 5);
+        says("0?0;0?0;1?5", 5);
+        says("0?7;0;5", 0);
         due.test(8, "none: 0");
         says("0?9", 0);
         says("0?9;0?8;m-3?7", 0);

@@ -25,6 +25,7 @@ public final class LanguageTest {
     private static int wrong;
 
     public static void main(String[] args) throws IOException {
+        Watch.begin("LanguageTest");
         face();
         String text = new String(Files.readAllBytes(Paths.get(SOURCE)), StandardCharsets.ISO_8859_1);
         words(bare(text));

@@ -9,6 +9,7 @@ public final class LawTest {
     private static Oracle o = new Oracle();
 
     public static void main(String[] args) {
+        Watch.begin("LawTest");
         all("");
         nested();
         System.out.println("LawTest: " + tapes + " tapes, " + wrong + " not as due");

@@ -15,6 +15,7 @@ public final class OracleTest {
     }
 
     public static void main(String[] args) {
+        Watch.begin("OracleTest");
         int wrongs = 0;
         for (int run = 0; run < RUNS && wrongs < 5; run++) {
             OracleTest one = new OracleTest(run);

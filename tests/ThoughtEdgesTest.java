@@ -344,6 +344,23 @@ public final class ThoughtEdgesTest {
         x.mend(0, 4, 0);
         x.mend(0, 0, 3);
         round("MOOD is another once, and LAST", x, 26, 2);
+        due.test(12, "MOOD less and HUNGER more is not the same");
+        x = Due.ruled("8*(h=12)");
+        x.mend(0, 0, 8);
+        x.mend(0, 1, 1);
+        round("8 less and 8 more", x, 56, 8);
+        x = Due.ruled("15*(h=12)");
+        x.mend(0, 0, 1);
+        round("1 less and 9 more", x, 393, 9);
+        due.test(12, "behind how many he was so for the first time");
+        // one more at five o'clock, for nine days; MOOD is so again each 16 hours
+        x = Due.ruled("h=5&l<9?l+1;l");
+        x.mend(0, 4, 0);
+        round("nine days first", x, 9 * 24 + 48, 9 * 24);
+        x.mend(0, 2, 8);
+        round("one day first", x, 24 + 48, 24);
+        x.mend(0, 3, 5);
+        round("one hour first", x, 1 + 48, 1);
     }
 
     private static void roundBy999() {
@@ -444,7 +461,16 @@ public final class ThoughtEdgesTest {
         due.is("15 by 3, 6, hour 0", x.make(told(15, 72), 0), 6);
         due.is("15 by 3, 6, hour 1", x.make(told(15, 72), 1), 3);
         due.is("15 by 3, 6, hour 2", x.make(told(15, 72), 2), 3);
+        due.test(13, "by what he said last, HUNGER, HOUR, TEMPER");
+        x = Due.ruled("l+r+(l>9)");
+        due.is("15 by 7: 7, 14, 22", x.make(told(6, 128), -1), 3);
+        due.is("15 by 8: 8, 0", x.make(told(0, 256), -1), 2);
+        due.is("9 and 6 and one more", x.make(told(15, 512 + 64), -1), 2);
+        due.is("9 and 6 and one more: 6 first", x.make(told(15, 512 + 64), 0), 6);
+        due.is("g", Due.ruled("g*r").make(told(9, 8), -1), 4);
+        due.is("t", Due.ruled("t*r").make(told(14, 4), -1), 1);
         due.test(13, "the last of which he says a THING in: in no fewer");
+        x = Due.ruled("m");
         due.is("4 by 2", x.make(told(4, 4), -1), NOT);
         due.is("6 by 2", x.make(told(6, 4), -1), 3);
         due.is("0 at once", x.make(told(0, ANY), -1), 1);
@@ -526,6 +552,9 @@ public final class ThoughtEdgesTest {
         due.is("all but the last", reciting("m", 0, 7, 15).recite(0, -2), 2);
         // MOOD without its lowest bit is said: MOOD is 6 or 7 by the first REMARK, 14 or 15 by 2 or 3 behind 6, 1 or 2 behind 7
         due.is("2 is in many ways, not in all", reciting("m/2*2", 0, 6, 14).recite(0, -2), 0);
+        // 1 is said by MOOD 9 alone, which is both REMARKS together: nine ways, of which each has the second told by the first
+        due.is("told by another is not sure", reciting("m=9", 0, 0, 1).recite(0, -2), 0);
+        due.is("nine ways, ten by the last", reciting("m=9", 0, 0, 1).waysTo(0), 90);
         due.test(14, "sure of those ways alone by which he says all of them");
         // every REMARK says 0 now, but 1 is said by MOOD 4 alone
         due.is("a later thing tells an earlier REMARK", reciting("m=4", 0, 1).recite(0, -2), 1);
@@ -556,6 +585,19 @@ public final class ThoughtEdgesTest {
         x = reciting("m/15", 0, 0, 1);
         due.is("the least that may go on", x.recite(0, 0), 6);
         due.is("then the only one", x.recite(0, 1), 9);
+        due.test(14, "from now: MOOD, HUNGER, LAST, HOUR, TEMPER as they are");
+        x = reciting("m*5+g*3+l*7+h+t*9+r", 14, 3);
+        int[] now = {3, 5, 2, 20, 1};
+        int[] whats = {0, 1, 2, 3, 6};
+        for (int i = 0; i < whats.length; i++) {
+            x.mend(0, whats[i], now[i]);
+        }
+        // 15 + 15 + 14 + 20 + 9 is 9: 14 by 5; then MOOD is 6: 30 + 18 + 98 + 21 + 9 is 0: 3 by 3
+        due.is("whether", x.recite(0, -1), 1);
+        due.is("the first", x.recite(0, 0), 5);
+        due.is("the second", x.recite(0, 1), 3);
+        due.is("sure", x.recite(0, -2), 2);
+        due.is("ways", x.waysTo(0), 1);
         due.test(14, "HUNGER, HOUR, LAST go on hour by hour");
         due.is("h and g and l", reciting("(g=2)*2+(h=8)*4+l", 0, 0, 6, 6).recite(0, -1), 1);
         due.is("t stays", reciting("t", 7, 7, 7).recite(0, -1), 1);
@@ -761,6 +803,12 @@ public final class ThoughtEdgesTest {
         }
         due.is("one of which more hours tell", Due.ruled("r=2?1;r=5?8;l=8?8;0").tellsMost(3, 0), 5);
         due.is("in how many of three", Due.ruled("r=2?1;r=5?8;l=8?8;0").tellsMost(3, 1), 0);
+        due.is("10 is none", Due.ruled("r=10|l").tellsMost(12, 0), 1);
+        due.is("10 is none: all agree", Due.ruled("r=10|l").tellsMost(12, 1), 12);
+        due.is("9 alone, by HOUR", Due.ruled("h+r/9").tellsMost(12, 0), 9);
+        due.is("9 alone, by HOUR: all but the first", Due.ruled("h+r/9").tellsMost(12, 1), 11);
+        due.is("4 alone, by HUNGER and TEMPER", Due.ruled("g*t+(r=4)").tellsMost(12, 0), 4);
+        due.is("4 alone, by HUNGER and TEMPER: all but the first", Due.ruled("g*t+(r=4)").tellsMost(12, 1), 11);
         due.test(18, "put in now once");
         due.is("in the first hour alone", Due.ruled("r").tellsMost(12, 1), 11);
         due.test(18, "of like ones the least");

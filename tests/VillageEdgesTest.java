@@ -152,6 +152,16 @@ public final class VillageEdgesTest {
             Laid.furnished(y);
             Due.bytes(y, 0, 0, 1);
         }, "places", y -> y.places(0, 3), 9);
+        due.test(20, "what they sell in n hours");
+        x = Due.ruled("h+m"); // 6, then 7 and 6, then 8 and 19
+        x.stall(64, 5);
+        x.stall(8192, 7);
+        x.stall(2048, 9);
+        Due.bytes(x, 0, 2, 0, 1);
+        int[] pence = {0, 5, 12, 21, 21};
+        for (int n = 0; n < pence.length; n++) {
+            due.is("pence in " + n, x.places(0, n), pence[n]);
+        }
         due.test(20, "without REMARKS");
         x = Due.ruled("r");
         x.stall(1, 5);
@@ -618,6 +628,11 @@ public final class VillageEdgesTest {
         read(9, 511, 0, 1, 2, 3, 4, 5, 6, 7, 8, 9, 10, 11, 12, 13, 14, 15, 16);
         read(9, 65535 - 127, 0, 1, 2, 3, 4, 5, 6, 7, 8, 9, 10, 11, 12, 13, 14, 15, 16, 0, 17, 1, 17, 2, 17, 3, 17, 4, 17, 5, 17,
             6, 17);
+        due.test(26, "no, if fewer than half are yes");
+        read(1, 2, 1, 16, 1, 2, 3, 17);
+        read(2, 6, 1, 16, 2, 16, 1, 2, 3, 4, 5, 17);
+        read(2, 6, 1, 16, 2, 16, 1, 3, 2, 5, 4, 17);
+        read(3, 14, 1, 16, 1, 2, 3, 4, 16);
         due.test(26, "as many as all");
         read(6, 63, 0, 1, 16, 2, 3, 16, 4, 5, 16);
         read(16, 65535, 0, 1, 16, 2, 3, 16, 4, 5, 16, 6, 7, 16, 8, 9, 16, 10, 11, 16, 12, 13, 16, 14, 15, 16);
@@ -709,6 +724,13 @@ public final class VillageEdgesTest {
         due.is("15 is a lump", x.drawn(5, 310, 0, 0), 3);
         due.is("15 not yet", x.drawn(5, 309, 0, 0), 0);
         due.is("23 is 7, too", x.drawn(5, 218, 700, 1), 4);
+        due.test(27, "LUMPS of all: by LAST and HUNGER, too");
+        x = Due.ruled("0"); // HUNGER is TEMPER, 7, in the eighth hour
+        due.is("7 hours", x.drawn(5, 307, 0, 0), 0);
+        due.is("8 hours", x.drawn(5, 308, 0, 0), 3);
+        due.is("10 hours", x.drawn(5, 310, 0, 0), 9);
+        due.is("how often 0", x.drawn(5, 310, 0, 1), 30);
+        due.is("how often 15", x.drawn(5, 310, 1500, 1), 0);
     }
 
     /** The SEED ahead of a z. */

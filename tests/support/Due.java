@@ -24,6 +24,7 @@ final class Due {
 
     Due(String name) {
         this.name = name;
+        Watch.begin(name);
     }
 
     void promise(int number) {
