@@ -266,6 +266,15 @@ public final class DeedEdgesTest {
         due.is("one of 0", x.led(4), 1);
         x.fed(9);
         due.is("two", x.led(4), 2);
+        due.test(30, "An object is used for at most 512 calls: by the 512th");
+        Stylite last = Due.made();
+        for (int i = 0; i < 6; i++) {
+            last.stall(65535, 99);
+        }
+        for (int i = 0; i < 505; i++) {
+            last.hour(0);
+        }
+        due.is("pence", last.led(3), 505 * 594);
         due.test(30, "what was refused is not led");
         x.hour(10);
         x.hour(-1);

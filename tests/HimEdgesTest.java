@@ -578,7 +578,8 @@ public final class HimEdgesTest {
         fine("((((((m))))))*((((((g))))))");
         fine("(((((!m+-g)))))");
         due.test(8, "At most 6 .. are open at once: 7");
-        for (String seven : new String[] {"!!!!!!!", "-------", "(((((((", "!-(!-(!", "!-(!-(-", "((((((!", "((((((-", "!!!!!!("}) {
+        for (String seven : new String[] {"!!!!!!!", "-------", "(((((((", "!-(!-(!", "!-(!-(-", "((((((!", "((((((-",
+            "!!!!!!("}) {
             fault(seven + "m", 6);
             fault("m-" + seven + "9", 8);
         }
@@ -661,13 +662,7 @@ public final class HimEdgesTest {
 
     /** What he says by a text; his numbers are unlike: m 3, g 9, l 5, h 21, t 8, and r is 4. */
     private static void says(String text, int v) {
-        Stylite x = Due.ruled(text);
-        x.mend(0, 0, 3);
-        x.mend(0, 1, 9);
-        x.mend(0, 2, 5);
-        x.mend(0, 3, 21);
-        x.mend(0, 6, 8);
-        due.is("thing by " + text, x.thing(4), v & 15);
+        due.is("thing by " + text, Laid.told(text).thing(4), v & 15);
     }
 
     private static void lawNames() {

@@ -290,15 +290,9 @@ public final class PromiseTest {
         }
     }
 
-    /** What he says by the law; all numbers of his are unlike: m 3, g 9, l 5, h 21, r 4, t 8. */
+    /** What he says by the law; all his numbers are unlike: m 3, g 9, l 5, h 21, r 4, t 8. */
     private static void worth(String text, int v) {
-        Stylite x = Due.ruled(text);
-        x.mend(0, 0, 3);
-        x.mend(0, 1, 9);
-        x.mend(0, 2, 5);
-        x.mend(0, 3, 21);
-        x.mend(0, 6, 8);
-        due.is("thing by " + text, x.thing(4), v & 15);
+        due.is("thing by " + text, Laid.told(text).thing(4), v & 15);
     }
 
     private static void lawCalls() {
@@ -1003,7 +997,7 @@ public final class PromiseTest {
         for (int seed : seeds) {
             x = Due.ruled("r");
             for (int talks = 0; talks <= 12; talks++) {
-                int[] times = drawnTimes(seed, 30 * 24, talks);
+                int[] times = Laid.drawnRemarks(seed, 30 * 24, talks);
                 for (int thing = 0; thing < 10; thing++) {
                     due.is("drawn " + thing, x.drawn(seed, 3024, thing * 100 + talks, 1), times[thing]);
                 }
@@ -1011,16 +1005,6 @@ public final class PromiseTest {
         }
         due.is("by hand: 12345 >>> 8 is 48", x.drawn(0, 101, 812, 1), 1);
         due.is("none without talks", x.drawn(0, 101, 0, 1), 1);
-    }
-
-    private static int[] drawnTimes(int seed, int hours, int talks) {
-        int[] times = new int[16];
-        long z = seed;
-        for (int i = 0; i < hours; i++) {
-            z = z * 1103515245L + 12345L & 0xffffffffL;
-            times[z / 65536 % 12 < talks ? (int) (z / 256 % 10) : 0]++;
-        }
-        return times;
     }
 
     private static void hourCalls() {

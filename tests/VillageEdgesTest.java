@@ -766,17 +766,6 @@ public final class VillageEdgesTest {
         }
     }
 
-    /** How often each REMARK comes. */
-    private static int[] remarks(int seed, int hours, int talks) {
-        int[] times = new int[16];
-        long z = seed;
-        for (int i = 0; i < hours; i++) {
-            z = z * 1103515245L + 12345L & 0xffffffffL;
-            times[z / 65536 % 12 < talks ? (int) (z / 256 % 10) : 0]++;
-        }
-        return times;
-    }
-
     private static void drawnNumbers() {
         due.test(27, "z = z * 1103515245 + 12345 (an int; SEED at first) ahead of each hour");
         for (int seed : new int[] {0, 1, -1, LEAST, MOST, 12345, 987654321}) {
@@ -784,9 +773,10 @@ public final class VillageEdgesTest {
                 Stylite x = Due.ruled("r");
                 for (int thing = 0; thing <= 15; thing++) {
                     String call = "SEED " + seed + ", TALKS " + talks + ", THING " + thing;
-                    due.is(call, x.drawn(seed, 3024, thing * 100 + talks, 1), remarks(seed, 720, talks)[thing]);
-                    due.is(call + ", one night", x.drawn(seed, 103, thing * 100 + talks, 1), remarks(seed, 3, talks)[thing]);
-                    due.is(call + ", two", x.drawn(seed, 202, thing * 100 + talks, 1), remarks(seed, 4, talks)[thing]);
+                    int tt = thing * 100 + talks;
+                    due.is(call, x.drawn(seed, 3024, tt, 1), Laid.drawnRemarks(seed, 720, talks)[thing]);
+                    due.is(call + ", one night", x.drawn(seed, 103, tt, 1), Laid.drawnRemarks(seed, 3, talks)[thing]);
+                    due.is(call + ", two", x.drawn(seed, 202, tt, 1), Laid.drawnRemarks(seed, 4, talks)[thing]);
                 }
             }
         }

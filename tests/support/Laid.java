@@ -70,4 +70,26 @@ final class Laid {
         }
         return all.toString();
     }
+
+    /** One ruled by the text, of whom all numbers are unlike: MOOD 3, HUNGER 9, LAST 5, HOUR 21, TEMPER 8. */
+    static Stylite told(String text) {
+        Stylite x = Due.ruled(text);
+        x.mend(0, 0, 3);
+        x.mend(0, 1, 9);
+        x.mend(0, 2, 5);
+        x.mend(0, 3, 21);
+        x.mend(0, 6, 8);
+        return x;
+    }
+
+    /** By draws from a seed: how often each REMARK comes in so many hours. */
+    static int[] drawnRemarks(int seed, int hours, int talks) {
+        int[] times = new int[16];
+        long z = seed;
+        for (int i = 0; i < hours; i++) {
+            z = z * 1103515245L + 12345L & 0xffffffffL;
+            times[z / 65536 % 12 < talks ? (int) (z / 256 % 10) : 0]++;
+        }
+        return times;
+    }
 }
