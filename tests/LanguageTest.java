@@ -30,6 +30,8 @@ public final class LanguageTest {
         String text = new String(Files.readAllBytes(Paths.get(SOURCE)), StandardCharsets.ISO_8859_1);
         words(bare(text));
         methods(bare(text));
+        loops(bare(text));
+        divisors(bare(text));
         made();
         System.out.println(wrong == 0 ? "LanguageTest: all as it should be" : "LanguageTest: " + wrong + " faults");
         if (wrong > 0) {
@@ -133,6 +135,39 @@ public final class LanguageTest {
         }
         Matcher fields = Pattern.compile("\\bstatic (?!final|class)[^({]*;").matcher(text);
         fault(fields.find(), "static fields are final");
+        Matcher rows = Pattern.compile("\\bstatic final \\w+\\[\\] (\\w+) = (\\S)").matcher(text);
+        while (rows.find()) {
+            fault(!rows.group(2).equals("{"), rows.group(1) + " is written out");
+            fault(text.contains(rows.group(1) + "["), rows.group(1) + " is read by at() alone, so never changed");
+        }
+    }
+
+    /** The end of a loop is seen from its own line: a counter against a bound. */
+    private static void loops(String text) {
+        Matcher heads = Pattern.compile("(?m)^ *(?:\\} )?(for|while) \\((.*)\\) ?[{;]$").matcher(text);
+        int count = 0;
+        while (heads.find()) {
+            fault(!heads.group(2).matches(".*[<>].*"), "the loop " + heads.group().trim() + " has a bound");
+            count++;
+        }
+        int all = text.split("\\b(for|while) \\(", -1).length - 1;
+        fault(count != all || all < 50, "all loops are found: " + count + " of " + all);
+        fault(Pattern.compile("\\bdo\\b").matcher(text).find(), "no loop whose bound stands behind it");
+    }
+
+    /** What divides is a number that is told and not 0, or is looked at in the same line. */
+    private static void divisors(String text) {
+        Pattern sign = Pattern.compile(" [/%]=? (\\(?\\w+)");
+        int count = 0;
+        for (String line : text.split("\n")) {
+            Matcher signs = sign.matcher(line);
+            while (signs.find()) {
+                boolean told = signs.group(1).matches("[1-9]\\d*|THINGS|REMARKS|BITS");
+                fault(!told && !line.contains("b == 0 ? 0 :"), "the divisor in " + line.trim());
+                count++;
+            }
+        }
+        fault(count < 20, "divisors are found");
     }
 
     private static void methods(String text) {
