@@ -40,6 +40,7 @@ public final class HimEdgesTest {
         lawFaultOfLines();
         lawFaultAtTheLength();
         lawSixOpen();
+        lawSixOpenAnywhere();
         lawOfFullTape();
         lawBehindFault();
         lawAgain();
@@ -594,6 +595,27 @@ public final class HimEdgesTest {
         fault("(-(m)+!!!!!!g)", 11);
         fine("m-m-m-m-m-m-m-m-m");
         fault("m--------m", 8);
+    }
+
+    /** Wherever an O may stand, outside of all ( and inside one. */
+    private static void lawSixOpenAnywhere() {
+        for (String ahead : new String[] {"", "m?", "m;", "m?g;", "m?g;l?", "m|", "m&", "m<", "m=", "m>", "m+", "m-", "m*", "m/",
+            "m%", "m?g|", "m?g&", "m?g<", "m?g+", "m?g*"}) {
+            due.test(8, "At most 6 .. are open at once: behind \"" + ahead + "\"");
+            for (String sign : new String[] {"!", "-"}) {
+                String six = Laid.repeated(sign, 6);
+                fine(ahead + six + "m");
+                fault(ahead + six + sign + "m", ahead.length() + 6);
+                fault(ahead + six + "(m)", ahead.length() + 6);
+            }
+            fine(ahead + "((((((m))))))");
+            fault(ahead + "(((((((m)))))))", ahead.length() + 6);
+            if (ahead.indexOf('?') < 0 && ahead.indexOf(';') < 0) {
+                fine("(" + ahead + "!!!!!m)");
+                fault("(" + ahead + "!!!!!!m)", ahead.length() + 6);
+                fault("g?(" + ahead + "-----(m))", ahead.length() + 8);
+            }
+        }
     }
 
     private static void lawOfFullTape() {
